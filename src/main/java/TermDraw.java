@@ -80,12 +80,12 @@ public final class TermDraw {
         tape = new Bytes(TAPE_MOST);
         slate = new Bytes(SLATE_MOST);
         reader = new Reader(tape);
+        now = new Told();
+        draft = new Told();
         ring = new Told[RING];
         for (int i = 0; i < ring.length; i++) {
-            ring[i] = new Told();
+            ring[i] = i == 0 ? now : i == 1 ? draft : new Told();
         }
-        now = ring[0];
-        draft = ring[1];
         bases = new Bases();
         matches = new Matches();
         terms = new Terms(bases, matches);
