@@ -705,7 +705,7 @@ public final class TermDraw {
 
     // ---- bits of floats and doubles, by hand: the language leaves their library out ----
 
-    /** For a value from 1 on: by how many twos it is to be divided to come below 2; below 1: less than 0. */
+    /** By how many twos a value above 0 is divided to come to 1 or between 1 and 2; multiplied: less than 0. */
     private static int exponentOf(double value) {
         int exponent = 0;
         for (int i = 0; i < DOUBLE_BIAS && value >= 2; i++) {
@@ -908,7 +908,7 @@ public final class TermDraw {
             return true;
         }
 
-        /** A byte for the KIND that the WORD here is, 0 if it is none that can be told. */
+        /** The letter of the KIND that the WORD here is, 0 if it is none that can be told. */
         private int kindHere() {
             if (sign != AT_WORD || lettersOf(word) != 1) {
                 return 0;
