@@ -1,11 +1,27 @@
 import java.nio.charset.StandardCharsets;
 
-/** What the tests share: counted comparisons, and ways to put a text on THE TAPE. */
+/** What the tests share: counted comparisons, ways to put a text on THE TAPE, texts read and refused. */
 final class Checks {
+    static final int NONE = TermDraw.NONE;
+    static final int LEXICON = 0;
+    static final int ENDINGS = 1;
+    static final int SAME = 2;
+    static final int GENERAL = 3;
+    static final int PATTERN = 4;
+    static final int DOC = -1;
+
+    private static final String ALPHABET = "abcdefghijklmnopqrstuvwxyz";
+
     private static int made = 0;
     private static int wrong = 0;
+    private static String about = "";
 
     private Checks() {
+    }
+
+    /** What the comparisons from here on are about. */
+    static void about(String what) {
+        about = what;
     }
 
     static void due(String what, long got, long want) {
@@ -13,7 +29,7 @@ final class Checks {
         if (got != want) {
             wrong++;
             if (wrong <= 40) {
-                System.out.println(what + " answered " + got + ", due is " + want);
+                System.out.println(about + what + " answered " + got + ", due is " + want);
             }
         }
     }
@@ -26,7 +42,7 @@ final class Checks {
         made++;
         if (!got.equals(want)) {
             wrong++;
-            System.out.println(what + " answered \"" + got + "\", due is \"" + want + "\"");
+            System.out.println(about + what + " answered \"" + got + "\", due is \"" + want + "\"");
         }
     }
 
@@ -91,5 +107,62 @@ final class Checks {
         int n = x.term(t, common);
         due("term(" + t + ") and THE SLATE's length", x.slate(TermDraw.NONE), n);
         return slate(x);
+    }
+
+    private static String call(int which, String text) {
+        return (which == DOC ? "doc" : "text(" + which + ")") + " of <" + text + "> ";
+    }
+
+    static int tell(TermDraw x, int which, String text) {
+        return which == DOC ? doc(x, text) : text(x, which, text);
+    }
+
+    /** A TEXT with a FAULT on a new object: NONE, THE TAPE empty, nothing told by it. */
+    static void faulty(int which, String text, int what, int place) {
+        TermDraw x = new TermDraw();
+        refused(x, which, text, what, place);
+        int[] untold = {0, 1, 2, 3, 4, 5, 9};
+        for (int look : untold) {
+            due(call(which, text) + "look(" + look + ")", x.look(look), 0);
+        }
+    }
+
+    static void refused(TermDraw x, int which, String text, int what, int place) {
+        due(call(which, text), tell(x, which, text), NONE);
+        due(call(which, text) + "fault(0)", x.fault(0), what);
+        due(call(which, text) + "fault(1)", x.fault(1), place);
+        due(call(which, text) + "tape", x.look(10), 0);
+    }
+
+    /** A TEXT without a FAULT on a new object. */
+    static void read(int which, String text, int want) {
+        TermDraw x = new TermDraw();
+        taken(x, which, text, want);
+        due(call(which, text) + "changes", x.look(9), 1);
+    }
+
+    static void taken(TermDraw x, int which, String text, int want) {
+        due(call(which, text), tell(x, which, text), want);
+        due(call(which, text) + "fault(0)", x.fault(0), 0);
+        due(call(which, text) + "fault(1)", x.fault(1), NONE);
+        due(call(which, text) + "tape", x.look(10), 0);
+    }
+
+    /** Unlike words of two letters, each with a blank behind it: n of them from one on. */
+    static String many(int from, int n) {
+        StringBuilder all = new StringBuilder();
+        for (int i = from; i < from + n; i++) {
+            all.append(ALPHABET.charAt(i / 26)).append(ALPHABET.charAt(i % 26)).append(' ');
+        }
+        return all.toString();
+    }
+
+    /** Words of one letter, some of them the last ones of their SENTENCES: two bytes each. */
+    static String prose(int words) {
+        StringBuilder all = new StringBuilder();
+        for (int i = 0; i < words; i++) {
+            all.append(ALPHABET.charAt(i % 26)).append(i % 7 == 0 ? "." : " ");
+        }
+        return all.toString();
     }
 }

@@ -1,7 +1,6 @@
 /** Each promise of the document by worked examples, its edges, and wrong inputs. */
 public final class PromisesTest {
     private static final int NONE = TermDraw.NONE;
-    private static final String ALPHABET = "abcdefghijklmnopqrstuvwxyz";
 
     private PromisesTest() {
     }
@@ -70,40 +69,6 @@ public final class PromisesTest {
         Checks.due(what, got, want);
     }
 
-    /** A TEXT with a FAULT: NONE, THE TAPE empty, nothing told by it. */
-    private static void faulty(int which, String text, int what, int place) {
-        TermDraw x = new TermDraw();
-        int answer = which < 0 ? Checks.doc(x, text) : Checks.text(x, which, text);
-        String call = (which < 0 ? "doc" : "text(" + which + ")") + " of <" + text + ">";
-        due(call, answer, NONE);
-        due(call + " fault(0)", x.fault(0), what);
-        due(call + " fault(1)", x.fault(1), place);
-        due(call + " tape", x.look(10), 0);
-        due(call + " changes", x.look(9), 0);
-        due(call + " lexicon", x.look(0), 0);
-        due(call + " docs", x.look(3), 0);
-    }
-
-    private static void read(int which, String text, int want) {
-        TermDraw x = new TermDraw();
-        int answer = which < 0 ? Checks.doc(x, text) : Checks.text(x, which, text);
-        String call = (which < 0 ? "doc" : "text(" + which + ")") + " of <" + text + ">";
-        due(call, answer, want);
-        due(call + " fault(0)", x.fault(0), 0);
-        due(call + " fault(1)", x.fault(1), NONE);
-        due(call + " changes", x.look(9), 1);
-        due(call + " tape", x.look(10), 0);
-    }
-
-    /** Unlike words of two letters, parted by blanks: n of them from one on. */
-    private static String many(int from, int n) {
-        StringBuilder all = new StringBuilder();
-        for (int i = from; i < from + n; i++) {
-            all.append(ALPHABET.charAt(i / 26)).append(ALPHABET.charAt(i % 26)).append(' ');
-        }
-        return all.toString();
-    }
-
     private static void newObject() {
         due("NONE", TermDraw.NONE, -1);
         TermDraw x = new TermDraw();
@@ -170,27 +135,27 @@ public final class PromisesTest {
     }
 
     private static void textLexicon() {
-        read(0, "", 0);
-        read(0, " \n ", 0);
-        read(0, "n:a;", 1);
-        read(0, "n : a b a;a:b\n;", 2);
-        read(0, "n:abcdefghij;", 1);
-        faulty(0, "x:a;", 1, 0);
-        faulty(0, "nn:a;", 1, 0);
-        faulty(0, "n;", 1, 1);
-        faulty(0, "n:;", 1, 2);
-        faulty(0, "n:a", 1, 3);
-        faulty(0, "n:a  ", 1, 5);
-        faulty(0, "n", 1, 1);
-        faulty(0, ":a;", 1, 0);
-        faulty(0, "n:a b:c;", 1, 5);
-        faulty(0, "n:a;;", 1, 4);
-        faulty(0, "n:abcdefghijk;", 1, 2);
-        faulty(0, "nabcdefghijk:a;", 1, 0);
-        faulty(0, "n:a B;", 1, 4);
-        faulty(0, "n:a\t;", 1, 3);
+        Checks.read(0, "", 0);
+        Checks.read(0, " \n ", 0);
+        Checks.read(0, "n:a;", 1);
+        Checks.read(0, "n : a b a;a:b\n;", 2);
+        Checks.read(0, "n:abcdefghij;", 1);
+        Checks.faulty(0, "x:a;", 1, 0);
+        Checks.faulty(0, "nn:a;", 1, 0);
+        Checks.faulty(0, "n;", 1, 1);
+        Checks.faulty(0, "n:;", 1, 2);
+        Checks.faulty(0, "n:a", 1, 3);
+        Checks.faulty(0, "n:a  ", 1, 5);
+        Checks.faulty(0, "n", 1, 1);
+        Checks.faulty(0, ":a;", 1, 0);
+        Checks.faulty(0, "n:a b:c;", 1, 5);
+        Checks.faulty(0, "n:a;;", 1, 4);
+        Checks.faulty(0, "n:abcdefghijk;", 1, 2);
+        Checks.faulty(0, "nabcdefghijk:a;", 1, 0);
+        Checks.faulty(0, "n:a B;", 1, 4);
+        Checks.faulty(0, "n:a\t;", 1, 3);
         TermDraw x = new TermDraw();
-        due("79", Checks.text(x, 0, "n:" + many(0, 79) + ";"), 79);
+        due("79", Checks.text(x, 0, "n:" + Checks.many(0, 79) + ";"), 79);
         due("80 with one told again", Checks.text(x, 0, "v: aa zz ab;"), 80);
         due("told again alone", Checks.text(x, 0, "a: aa zz;"), 80);
         due("81st", Checks.text(x, 0, "v: aa zz zy qqqqqqqqqqq;"), NONE);
@@ -210,20 +175,20 @@ public final class PromisesTest {
     }
 
     private static void textEndings() {
-        read(1, "", 0);
-        read(1, "s=;", 1);
-        read(1, "s = ;ies=y ; s=;", 3);
-        faulty(1, "s;", 1, 1);
-        faulty(1, "=;", 1, 0);
-        faulty(1, "s=a b;", 1, 4);
-        faulty(1, "s=", 1, 2);
-        faulty(1, "s=.;", 1, 2);
-        faulty(1, "abcdefghijk=;", 1, 0);
-        faulty(1, "s=abcdefghijk;", 1, 2);
-        read(1, "a=;b=;c=;d=;e=;f=;g=;h=;", 8);
-        faulty(1, "a=;b=;c=;d=;e=;f=;g=;h=; i=;", 2, 25);
-        faulty(1, "a=;b=;c=;d=;e=;f=;g=;h=; abcdefghijk=;", 1, 25);
-        faulty(1, "a=;b=;c=;d=;e=;f=;g=;h=;;", 1, 24);
+        Checks.read(1, "", 0);
+        Checks.read(1, "s=;", 1);
+        Checks.read(1, "s = ;ies=y ; s=;", 3);
+        Checks.faulty(1, "s;", 1, 1);
+        Checks.faulty(1, "=;", 1, 0);
+        Checks.faulty(1, "s=a b;", 1, 4);
+        Checks.faulty(1, "s=", 1, 2);
+        Checks.faulty(1, "s=.;", 1, 2);
+        Checks.faulty(1, "abcdefghijk=;", 1, 0);
+        Checks.faulty(1, "s=abcdefghijk;", 1, 2);
+        Checks.read(1, "a=;b=;c=;d=;e=;f=;g=;h=;", 8);
+        Checks.faulty(1, "a=;b=;c=;d=;e=;f=;g=;h=; i=;", 2, 25);
+        Checks.faulty(1, "a=;b=;c=;d=;e=;f=;g=;h=; abcdefghijk=;", 1, 25);
+        Checks.faulty(1, "a=;b=;c=;d=;e=;f=;g=;h=;;", 1, 24);
         TermDraw x = new TermDraw();
         Checks.text(x, 1, "a=;b=;");
         due("in place", Checks.text(x, 1, "c=;"), 1);
@@ -235,20 +200,20 @@ public final class PromisesTest {
     }
 
     private static void textSame() {
-        read(2, "", 0);
-        read(2, "a b;", 2);
-        read(2, "a b a b ;c d;", 6);
-        faulty(2, "a;", 1, 1);
-        faulty(2, ";", 1, 0);
-        faulty(2, "a b", 1, 3);
-        faulty(2, "a b. ;", 1, 3);
-        faulty(2, "a abcdefghijk;", 1, 2);
-        read(2, many(0, 38) + ";a b;", 40);
-        faulty(2, many(0, 40) + "a;", 2, 120);
-        faulty(2, many(0, 40) + ";a b;", 2, 121);
-        faulty(2, many(0, 39) + ";a ;", 1, 120);
-        faulty(2, many(0, 39) + ";a aa;", 2, 120);
-        faulty(2, many(0, 40) + "abcdefghijk;", 1, 120);
+        Checks.read(2, "", 0);
+        Checks.read(2, "a b;", 2);
+        Checks.read(2, "a b a b ;c d;", 6);
+        Checks.faulty(2, "a;", 1, 1);
+        Checks.faulty(2, ";", 1, 0);
+        Checks.faulty(2, "a b", 1, 3);
+        Checks.faulty(2, "a b. ;", 1, 3);
+        Checks.faulty(2, "a abcdefghijk;", 1, 2);
+        Checks.read(2, Checks.many(0, 38) + ";a b;", 40);
+        Checks.faulty(2, Checks.many(0, 40) + "a;", 2, 120);
+        Checks.faulty(2, Checks.many(0, 40) + ";a b;", 2, 121);
+        Checks.faulty(2, Checks.many(0, 39) + ";a ;", 1, 120);
+        Checks.faulty(2, Checks.many(0, 39) + ";a aa;", 2, 120);
+        Checks.faulty(2, Checks.many(0, 40) + "abcdefghijk;", 1, 120);
         TermDraw x = new TermDraw();
         Checks.text(x, 2, "a b c;");
         due("in place", Checks.text(x, 2, "d e;"), 2);
@@ -260,52 +225,44 @@ public final class PromisesTest {
     }
 
     private static void textGeneral() {
-        read(3, "", 0);
-        read(3, "...", 0);
-        read(3, "a b. c", 3);
-        faulty(3, "a b; c", 1, 3);
-        faulty(3, "a abcdefghijk", 1, 2);
-        read(3, prose(240), 240);
-        faulty(3, prose(240) + "a", 2, 480);
-        faulty(3, prose(240) + ". abcdefghijk", 1, 482);
+        Checks.read(3, "", 0);
+        Checks.read(3, "...", 0);
+        Checks.read(3, "a b. c", 3);
+        Checks.faulty(3, "a b; c", 1, 3);
+        Checks.faulty(3, "a abcdefghijk", 1, 2);
+        Checks.read(3, Checks.prose(240), 240);
+        Checks.faulty(3, Checks.prose(240) + "a", 2, 480);
+        Checks.faulty(3, Checks.prose(240) + ". abcdefghijk", 1, 482);
         TermDraw x = new TermDraw();
-        Checks.text(x, 3, prose(240));
+        Checks.text(x, 3, Checks.prose(240));
         due("in place", Checks.text(x, 3, "a b"), 2);
         due("GENERAL", x.look(5), 2);
     }
 
-    private static String prose(int words) {
-        StringBuilder all = new StringBuilder();
-        for (int i = 0; i < words; i++) {
-            all.append((char) ('a' + i % 26)).append(i % 7 == 0 ? "." : " ");
-        }
-        return all.toString();
-    }
-
     private static void textPattern() {
-        read(4, "", 0);
-        read(4, "navpdox.", 8);
-        read(4, "()", 0);
-        read(4, " ( | ) * \n| ", 0);
-        read(4, "nnnnnnnnnnnn", 12);
-        read(4, "((((n))))", 1);
-        read(4, "((((n)))).((((a))))?", 3);
-        faulty(4, "nnnnnnnnnnn.n", 2, 12);
-        faulty(4, "nnnnnnnnnnnnb", 1, 12);
-        faulty(4, "nnnnnnnnnnnn.", 2, 12);
-        faulty(4, "(((((n)))))", 2, 4);
-        faulty(4, "n(((( (", 2, 6);
-        faulty(4, "b", 1, 0);
-        faulty(4, "*", 1, 0);
-        faulty(4, "n**", 1, 2);
-        faulty(4, "n|+", 1, 2);
-        faulty(4, "(?)", 1, 1);
-        faulty(4, ")", 1, 0);
-        faulty(4, "n)", 1, 1);
-        faulty(4, "(n", 1, 2);
-        faulty(4, "(n ", 1, 3);
-        faulty(4, "n;", 1, 1);
-        faulty(4, "n" + (char) 0, 1, 1);
+        Checks.read(4, "", 0);
+        Checks.read(4, "navpdox.", 8);
+        Checks.read(4, "()", 0);
+        Checks.read(4, " ( | ) * \n| ", 0);
+        Checks.read(4, "nnnnnnnnnnnn", 12);
+        Checks.read(4, "((((n))))", 1);
+        Checks.read(4, "((((n)))).((((a))))?", 3);
+        Checks.faulty(4, "nnnnnnnnnnn.n", 2, 12);
+        Checks.faulty(4, "nnnnnnnnnnnnb", 1, 12);
+        Checks.faulty(4, "nnnnnnnnnnnn.", 2, 12);
+        Checks.faulty(4, "(((((n)))))", 2, 4);
+        Checks.faulty(4, "n(((( (", 2, 6);
+        Checks.faulty(4, "b", 1, 0);
+        Checks.faulty(4, "*", 1, 0);
+        Checks.faulty(4, "n**", 1, 2);
+        Checks.faulty(4, "n|+", 1, 2);
+        Checks.faulty(4, "(?)", 1, 1);
+        Checks.faulty(4, ")", 1, 0);
+        Checks.faulty(4, "n)", 1, 1);
+        Checks.faulty(4, "(n", 1, 2);
+        Checks.faulty(4, "(n ", 1, 3);
+        Checks.faulty(4, "n;", 1, 1);
+        Checks.faulty(4, "n" + (char) 0, 1, 1);
     }
 
     /** Of the words a a n n v x how many stretches of 1 to 5 are rows of a pattern. */
@@ -341,13 +298,13 @@ public final class PromisesTest {
     }
 
     private static void doc() {
-        read(-1, "", 0);
-        read(-1, "a . b", 0);
-        faulty(-1, "a, b", 1, 1);
-        faulty(-1, "a abcdefghijk", 1, 2);
+        Checks.read(-1, "", 0);
+        Checks.read(-1, "a . b", 0);
+        Checks.faulty(-1, "a, b", 1, 1);
+        Checks.faulty(-1, "a abcdefghijk", 1, 2);
         TermDraw x = new TermDraw();
         for (int i = 0; i < 7; i++) {
-            due("doc", Checks.doc(x, i == 0 ? prose(239) : "."), i);
+            due("doc", Checks.doc(x, i == 0 ? Checks.prose(239) : "."), i);
         }
         due("241st", Checks.doc(x, "a. b"), NONE);
         due("241st fault", x.fault(0), 2);
@@ -941,8 +898,8 @@ public final class PromisesTest {
     /** 240 unlike WORDS in two DOCS, all stretches TERMS: nothing runs over. */
     private static void fullObject() {
         TermDraw x = new TermDraw();
-        Checks.doc(x, many(0, 190));
-        Checks.doc(x, many(190, 50));
+        Checks.doc(x, Checks.many(0, 190));
+        Checks.doc(x, Checks.many(190, 50));
         Checks.text(x, 4, ".*");
         x.lengths(1, 5);
         x.wide(3);
