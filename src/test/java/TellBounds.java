@@ -285,6 +285,11 @@ final class TellBounds {
         says(4, "NONE with a FAULT (what was told stays);");
         TermDraw x = full();
         String before = state(x);
+        word(x, 0, 1, "aa");
+        for (int which = -1; which < 5; which++) {
+            due("NONE", Checks.tell(x, which, BAD[which + 1]), NONE);
+            Checks.due("THE SLATE stays", Checks.slate(x), "aa");
+        }
         for (int which = 0; which < 5; which++) {
             due("NONE", Checks.text(x, which, BAD[which + 1]), NONE);
             due("a FAULT", x.fault(0), 1);
