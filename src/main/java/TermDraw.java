@@ -7,6 +7,9 @@ public final class TermDraw {
 
     private static final int NO_SUCH = -2;
 
+    /** The least long: what measure() answers where there is no such MEASURE. */
+    private static final long NO_MEASURE = 1L << 63;
+
     private static final int TAPE_MOST = 600;
     private static final int TOKENS_MOST = TAPE_MOST + 1;
     private static final int WORD_MOST = 10;
@@ -59,6 +62,8 @@ public final class TermDraw {
     private static final int DOUBLE_BIAS = 1023;
     private static final int DOUBLE_FRACTION = 52;
     private static final long DOUBLE_ONE = 1L << DOUBLE_FRACTION;
+    private static final int FLOAT_SIGN = 1 << 31;
+    private static final long DOUBLE_SIGN = 1L << 63;
 
     private final Bytes tape;
     private final Bytes slate;
@@ -315,13 +320,15 @@ public final class TermDraw {
     }
 
     public long measure(int t, int measure, boolean under) {
+        draw();
         if (!weighed(t, measure)) {
-            return Long.MIN_VALUE;
+            return NO_MEASURE;
         }
         return under ? measures.below : measures.above;
     }
 
     public int share(int t, int measure) {
+        draw();
         if (!weighed(t, measure)) {
             return NONE;
         }
@@ -330,6 +337,7 @@ public final class TermDraw {
     }
 
     public long rest(int t, int measure) {
+        draw();
         if (!weighed(t, measure)) {
             return NONE;
         }
@@ -526,8 +534,8 @@ public final class TermDraw {
         drawn = true;
     }
 
+    /** The FRACTION stands in measures then. */
     private boolean weighed(int t, int measure) {
-        draw();
         if (t < 0 || t >= terms.size || measure < 0 || measure >= MEASURES) {
             return false;
         }
@@ -739,7 +747,7 @@ public final class TermDraw {
         int exponent = exponentOf(size);
         int fraction = (int) (fractionOf(size, exponent) >>> DOUBLE_FRACTION - FLOAT_FRACTION);
         int bits = exponent + FLOAT_BIAS << FLOAT_FRACTION | fraction & (1 << FLOAT_FRACTION) - 1;
-        return value < 0 ? bits | Integer.MIN_VALUE : bits;
+        return value < 0 ? bits | FLOAT_SIGN : bits;
     }
 
     /**
@@ -752,7 +760,7 @@ public final class TermDraw {
             return 0;
         }
         double size = value < 0 ? -value : value;
-        long sign = value < 0 ? Long.MIN_VALUE : 0;
+        long sign = value < 0 ? DOUBLE_SIGN : 0;
         int exponent = exponentOf(size);
         long units = fractionOf(size, exponent);
         if (size >= 1.5) {
